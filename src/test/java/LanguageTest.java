@@ -141,11 +141,11 @@ public final class LanguageTest {
         int found = 0;
         for (int index = 0; index < lines.length; index++) {
             // A method's first line is indented by four or eight, its last one is a brace as far in.
-            if (lines[index].matches(" {4}( {4})?[a-z][a-zA-Z\\[\\] ]* [a-zA-Z]+\\(.*") && !lines[index].contains("=")
-                    && !lines[index].contains(";") && !lines[index].matches(" *(return|throw|if|for|while|switch) .*")) {
+            String line = lines[index];
+            if (line.matches(" {4}( {4})?[a-z][a-zA-Z\\[\\] ]* [a-zA-Z]+\\(.*") && !line.contains("=")
+                    && !line.contains(";") && !line.matches(" *(return|throw|if|for|while|switch) .*")) {
                 start = index;
-            } else if (start >= 0 && lines[index].matches(" {4}( {4})?}")
-                    && lines[index].indexOf('}') == indent(lines[start])) {
+            } else if (start >= 0 && line.matches(" {4}( {4})?}") && line.indexOf('}') == indent(lines[start])) {
                 check("rule 11, length: " + lines[start], index - start < 60);
                 start = -1;
                 found++;

@@ -636,7 +636,20 @@ public final class ModelTest {
             return seams[any(0, seams.length - 1)];
         }
 
+        /** A text that tells one of the receipts again, with its sum in one item or two. */
+        String again() {
+            List<Slip> slips = model.slips();
+            Slip slip = slips.get(any(0, slips.size() - 1));
+            int sum = slip.sum();
+            int half = sum / 2;
+            String items = sum <= 999 ? Integer.toString(sum) : half <= 998 ? half + "+" + (sum - half) : "999+999";
+            return slip.time + "@" + slip.shop + ":" + items + "=" + sum;
+        }
+
         String anyReceiptText(int from) {
+            if (any(0, 3) == 0 && !model.slips().isEmpty()) {
+                return again();
+            }
             StringBuilder text = new StringBuilder();
             int sum = 0;
             int last = 0;

@@ -99,6 +99,7 @@ public final class PromiseTest {
         suspect();
         rightShare();
         digest();
+        extremes();
         System.out.println(passed + " passed, " + failed + " failed");
         if (failed != 0) {
             System.exit(1);
@@ -200,6 +201,9 @@ public final class PromiseTest {
         due("after part, going back on the roll below", paste(diary, 2, "199@0:1=1"), 0);
         diary.cut(2);
         due("after part and cut", paste(diary, 2, "0@0:1=1"), 1);
+        NightDiary full = diaryOf("1@0:1=1;1@0:1=1;1@0:1=1;1@0:1=1;1@0:1=1", "5@6:7+8=9");
+        paste(full, 0, "1@0:1+2+3+4=1");
+        due("a sixth receipt leaves the next piece alone", full.receipt(1, 0, 3), 15);
         NightDiary back = diaryOf("100@0:1=1", "");
         due("another roll does not matter", paste(back, 1, "5@0:1=1"), 1);
     }
@@ -237,6 +241,7 @@ public final class PromiseTest {
         dueThrow("correct(0, -1)", () -> diary.correct(0, -1), INDEX);
         dueThrow("correct(1, 1)", () -> diary.correct(1, 1), INDEX);
         dueThrow("correct(2, 0)", () -> diary.correct(2, 0), INDEX);
+        dueThrow("correct(10, 0)", () -> diary.correct(10, 0), INDEX);
         dueThrow("correct(-1, 0)", () -> diary.correct(-1, 0), INDEX);
         diary.undo();
         diary.undo();
@@ -526,6 +531,7 @@ public final class PromiseTest {
         dueThrow("receipt(0, 2, 9)", () -> diary.receipt(0, 2, 9), INDEX);
         dueThrow("receipt(0, -1, 0)", () -> diary.receipt(0, -1, 0), INDEX);
         dueThrow("receipt(3, 0, 0)", () -> diary.receipt(3, 0, 0), INDEX);
+        dueThrow("receipt(10, 0, 0)", () -> diary.receipt(10, 0, 0), INDEX);
         dueThrow("receipt(-1, 0, 0)", () -> diary.receipt(-1, 0, 0), INDEX);
     }
 
@@ -582,9 +588,9 @@ public final class PromiseTest {
 
     private static void page() {
         promise = "promise 15, page";
-        NightDiary diary = diaryOf("719@3:10+20=30;720@4:5=9;2159@9:8=8;2160@0:1=1", "800@4:6=60");
+        NightDiary diary = diaryOf("719@3:10+20=30;720@4:5=9;2159@9:8=8;2160@0:1=1", "800@4:6=7");
         int[] first = {1, 30, 30, 0, 8};
-        int[] second = {3, 19, 77, 2, 16 + 512};
+        int[] second = {3, 19, 24, 2, 16 + 512};
         int[] third = {1, 1, 1, 0, 1};
         for (int what = 0; what < 5; what++) {
             due("page(0, " + what + ")", diary.page(0, what), first[what]);
@@ -666,6 +672,8 @@ public final class PromiseTest {
         diary.part(0);
         due("rolls", diary.count(1), 3);
         due("joins", diary.count(9), 0);
+        due("pairs with the first receipt", diaryOf("1@1:1=1", "1@1:1=2").count(10), 1);
+        due("pages of the first receipt", diaryOf("1@1:1=1").count(11), 1);
         dueThrow("count(-1)", () -> diary.count(-1), ARGUMENT);
         dueThrow("count(13)", () -> diary.count(13), ARGUMENT);
     }
@@ -729,6 +737,18 @@ public final class PromiseTest {
         dueLongest("lowest first, lowest last", later, 2, 1, 2);
         NightDiary tie = diaryOfSeams(79, 31, 79, 30, 10, 20, 68, 5);
         dueLongest("a longer one by a later first piece", tie, 3, 2, 3);
+        NightDiary lasts = diaryOfSeams(1, 50, 49, 60, 39, 7, 49, 50);
+        paste(lasts, 2, "50@0:1=1");
+        paste(lasts, 3, "100@0:1=1");
+        dueLongest("0, 1, 2 and 0, 3, 1", lasts, 3, 0, 1);
+        NightDiary firsts = diaryOfSeams(49, 60, 1, 50, 39, 2);
+        paste(firsts, 1, "100@0:1=1");
+        paste(firsts, 2, "50@0:1=1");
+        dueLongest("0, 2 and 1, 0", firsts, 2, 0, 2);
+        NightDiary gone = diaryOfSeams(49, 50);
+        due("first", gone.longest(1), 0);
+        gone.undo();
+        dueLongest("without pieces again", gone, 0, NONE, NONE);
         NightDiary ten = diaryOfSeams(49, 50, 49, 50, 49, 50, 49, 50, 49, 50, 49, 50, 49, 50, 49, 50, 49, 50, 49, 50);
         for (int piece = 0; piece < 10; piece++) {
             paste(ten, piece, (9 - piece) + "@0:1=1");
@@ -784,18 +804,20 @@ public final class PromiseTest {
         for (int what = 0; what <= 12; what++) {
             hash = 31 * hash + diary.count(what);
         }
-        for (int piece = 0; piece < diary.count(0); piece++) {
+        int pieces = diary.count(0);
+        for (int piece = 0; piece < pieces; piece++) {
             for (int what = 0; what <= 7; what++) {
                 hash = 31 * hash + diary.pieceOf(piece, what);
             }
-            for (int receipt = 0; receipt < diary.pieceOf(piece, 2); receipt++) {
+            int receipts = diary.pieceOf(piece, 2);
+            for (int receipt = 0; receipt < receipts; receipt++) {
                 for (int what = 0; what <= 8; what++) {
                     hash = 31 * hash + diary.receipt(piece, receipt, what);
                 }
             }
         }
-        for (int upper = 0; upper < diary.count(0); upper++) {
-            for (int lower = 0; lower < diary.count(0); lower++) {
+        for (int upper = 0; upper < pieces; upper++) {
+            for (int lower = 0; lower < pieces; lower++) {
                 hash = 31 * hash + diary.fits(upper, lower);
             }
         }
@@ -828,25 +850,94 @@ public final class PromiseTest {
         return hash;
     }
 
+    private static void dueNoFault(String what, LongSupplier call) {
+        String got = "";
+        try {
+            call.getAsLong();
+        } catch (RuntimeException e) {
+            got = e.getClass().getSimpleName();
+        }
+        due(what + " gave " + got, got.isEmpty() || got.equals(INDEX) || got.equals(ARGUMENT) || got.equals(STATE)
+                ? 1 : 0, 1);
+    }
+
+    private static void extremes() {
+        promise = "no call throws by itself";
+        int[] numbers = {Integer.MIN_VALUE, -541, -61, -11, -1, 0, 5, 10, 59, 99, 480, 541, Integer.MAX_VALUE};
+        for (int one : numbers) {
+            NightDiary diary = diaryOf("9999@9:1=2;9999@9:2=2", "9999@9:1=1", "", "5@5:5=5");
+            long before = diary.digest();
+            dueNoFault("pieces with " + one, () -> one >= 0 && one < 4 ? 0 : diary.cut(one) + diary.part(one));
+            dueNoFault("paste of " + one, () -> diary.paste(one));
+            dueNoFault("count of " + one, () -> diary.count(one));
+            dueNoFault("longest of " + one, () -> diary.longest(one));
+            dueNoFault("append of " + one, () -> one >= 33 && one <= 126 ? 0 : diary.append(one));
+            for (int other : numbers) {
+                String both = one + ", " + other;
+                dueNoFault("piece of " + both, () -> one >= 0 && other >= 0 ? 0 : diary.piece(one, other));
+                dueNoFault("correct of " + both, () -> one == 0 && other == 0 ? 0 : diary.correct(one, other));
+                dueNoFault("join of " + both, () -> diary.join(one, other));
+                dueNoFault("pieceOf of " + both, () -> diary.pieceOf(one, other));
+                dueNoFault("page of " + both, () -> diary.page(one, other));
+                dueNoFault("sum of " + both, () -> diary.sum(one, other));
+                dueNoFault("fits of " + both, () -> diary.fits(one, other));
+                dueNoFault("line of " + both, () -> diary.line(5, one, other));
+                dueNoFault("receipt of " + both, () -> diary.receipt(one, other, 0));
+            }
+            due("nothing is changed", diary.digest(), before);
+        }
+    }
+
+    /** A diary after the first so many of some changes: a digest and all looks need two, each within 512 calls. */
+    private static NightDiary diaryAfter(int changes) {
+        NightDiary diary = new NightDiary();
+        for (int change = 0; change < changes; change++) {
+            switch (change) {
+                case 0:
+                    diary.piece(49, 50);
+                    diary.piece(49, 50);
+                    diary.piece(49, 51);
+                    break;
+                case 1:
+                    paste(diary, 0, "730@1:2+3=5;800@2:3=4");
+                    break;
+                case 2:
+                    write(diary, BUFFER);
+                    break;
+                case 3:
+                    diary.paste(2);
+                    break;
+                case 4:
+                    diary.joinClear();
+                    break;
+                case 5:
+                    diary.correct(0, 1);
+                    break;
+                case 6:
+                    diary.correct(2, 1);
+                    break;
+                default:
+                    diary.cut(0);
+                    break;
+            }
+        }
+        return diary;
+    }
+
+    private static final String BUFFER = "800@2:3=3;9000@9:1+2+3=60";
+
     private static void digest() {
         promise = "promise 24, digest";
-        NightDiary diary = new NightDiary();
-        due("empty", diary.digest(), hashOf(diary, ""));
-        diary.piece(49, 50);
-        diary.piece(49, 50);
-        diary.piece(49, 51);
-        due("pieces", diary.digest(), hashOf(diary, ""));
-        paste(diary, 0, "730@1:2+3=5;800@2:3=4");
-        write(diary, "800@2:3=3;9000@9:1+2+3=60");
-        due("a buffer", diary.digest(), hashOf(diary, "800@2:3=3;9000@9:1+2+3=60"));
-        due("the same again", diary.digest(), hashOf(diary, "800@2:3=3;9000@9:1+2+3=60"));
-        diary.paste(2);
-        diary.joinClear();
-        due("joined", diary.digest(), hashOf(diary, ""));
-        diary.correct(0, 1);
-        diary.correct(2, 1);
-        due("all right", diary.digest(), hashOf(diary, ""));
-        NightDiary wrong = diaryOf("1@1:2=3");
-        due("none right", wrong.digest(), hashOf(wrong, ""));
+        for (int changes = 0; changes < 9; changes++) {
+            String buffer = changes == 3 ? BUFFER : "";
+            NightDiary diary = diaryAfter(changes);
+            long hash = diary.digest();
+            due("after changes, " + changes, hash, hashOf(diaryAfter(changes), buffer));
+            due("again, " + changes, diary.digest(), hash);
+        }
+        due("none right", diaryOf("1@1:2=3").digest(), hashOf(diaryOf("1@1:2=3"), ""));
+        String five = "1@1:1=1;1@1:2=3;1@1:3=3;1@1:4=4;1@1:5=5";
+        due("four of five right", diaryOf(five).digest(), hashOf(diaryOf(five), ""));
+        due("five of six right", diaryOf(five, "5@5:5=5").digest(), hashOf(diaryOf(five, "5@5:5=5"), ""));
     }
 }
