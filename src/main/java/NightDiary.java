@@ -725,7 +725,7 @@ public final class NightDiary {
         }
     }
 
-    /** Which pieces can be joined, and those that it is clear of. */
+    /** Which pieces can be joined, and the joins of those that leave no choice. */
     private static final class Joining {
         static final int NO_OBSTACLE = 0;
         private static final int SEAMS_DIFFER = 1;
@@ -836,10 +836,11 @@ public final class NightDiary {
             int shop = book.get(Book.SHOP + slot);
             int sum = book.sumOf(slot);
             for (int other = 0; other < SLOTS; other++) {
-                if (book.isUsed(other)
-                        && Book.pieceOfSlot(other) != Book.pieceOfSlot(slot)
-                        && book.get(Book.TIME + other) == time
+                // The time comes first, though it may be an old one of an unused slot: it differs mostly.
+                if (book.get(Book.TIME + other) == time
                         && book.get(Book.SHOP + other) == shop
+                        && book.isUsed(other)
+                        && Book.pieceOfSlot(other) != Book.pieceOfSlot(slot)
                         && book.sumOf(other) == sum) {
                     alike++;
                 }
