@@ -1258,7 +1258,11 @@ public final class NightDiary {
                     return code == '=' && endItem(IN_TOTAL)
                             || code == '+' && items + 1 < MAX_ITEMS && endItem(IN_ITEM);
                 default:
-                    return code == ';' && endReceipt();
+                    if (code != ';') {
+                        return false;
+                    }
+                    restart();
+                    return true;
             }
         }
 
@@ -1280,11 +1284,6 @@ public final class NightDiary {
                 items++;
             }
             begin(next);
-            return true;
-        }
-
-        private boolean endReceipt() {
-            restart();
             return true;
         }
     }
